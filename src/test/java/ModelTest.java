@@ -67,7 +67,7 @@ public final class ModelTest {
             emit();
         }
         int calls = instructions;
-        while (calls < CALLS - 40 && forgetfulCalls < CALLS - 40) {
+        while (calls < CALLS - 70 && forgetfulCalls < CALLS - 70) {
             calls += change();
             if (random.nextInt(3) == 0) {
                 calls += compareAll();

@@ -86,22 +86,28 @@ public final class SignalTest {
     }
 
     private static void fullOnOneChannel() {
-        for (int channel = 0; channel < 2; channel++) {
-            ReplayFlow flow = Check.engine(Check.CALL, 0, 0, Check.TAKE, 1, channel, Check.JUMP, 0, 1);
-            flow.start(0, 0);
-            flow.start(1, 0);
-            for (int i = 0; i < 24; i++) {
-                Check.due("signal " + i, flow.signal(0, channel, 100 + i), ReplayFlow.CALLING);
-            }
-            Check.due("the 25th", flow.signal(0, channel, 1), ReplayFlow.FULL);
-            Check.due("the 25th on the other", flow.signal(0, 1 - channel, 1), ReplayFlow.FULL);
-            Check.dueRun("full", flow, 0, ReplayFlow.CALLING, 0, 0, 24, 0, 0, 0, 0);
-            Check.due("another run has room", flow.signal(1, channel, 3), ReplayFlow.CALLING);
-            Check.due("all taken", flow.answer(0, 0), ReplayFlow.TAKING);
-            Check.dueRun("all taken", flow, 0, ReplayFlow.TAKING, 0, 0, 0, 0, 123, 0, 0);
-            Check.due("full though all are taken", flow.signal(0, channel, 1), ReplayFlow.FULL);
-            Check.dueRun("still", flow, 0, ReplayFlow.TAKING, 0, 0, 0, 0, 123, 0, 0);
+        for (int run = 0; run < 3; run++) {
+            fullOnOneChannel(run, 0);
+            fullOnOneChannel(run, 1);
         }
+    }
+
+    private static void fullOnOneChannel(int run, int channel) {
+        ReplayFlow flow = Check.engine(Check.CALL, 0, 0, Check.TAKE, 1, channel, Check.JUMP, 0, 1);
+        int other = (run + 1) % 3;
+        flow.start(run, 0);
+        flow.start(other, 0);
+        for (int i = 0; i < 24; i++) {
+            Check.due("signal " + i, flow.signal(run, channel, 100 + i), ReplayFlow.CALLING);
+        }
+        Check.due("the 25th", flow.signal(run, channel, 1), ReplayFlow.FULL);
+        Check.due("the 25th on the other", flow.signal(run, 1 - channel, 1), ReplayFlow.FULL);
+        Check.dueRun("full", flow, run, ReplayFlow.CALLING, 0, 0, 24, 0, 0, 0, 0);
+        Check.due("another run has room", flow.signal(other, channel, 3), ReplayFlow.CALLING);
+        Check.due("all taken", flow.answer(run, 0), ReplayFlow.TAKING);
+        Check.dueRun("all taken", flow, run, ReplayFlow.TAKING, 0, 0, 0, 0, 123, 0, 0);
+        Check.due("full though all are taken", flow.signal(run, channel, 1), ReplayFlow.FULL);
+        Check.dueRun("still", flow, run, ReplayFlow.TAKING, 0, 0, 0, 0, 123, 0, 0);
     }
 
     private static void fullOnBothChannelsAndWhenTaken() {
