@@ -1,101 +1,136 @@
+import java.util.function.ToIntFunction;
+
 /** Promises 9 to 14: state, register, activity, result, untaken and time. */
 public final class AnswersTest {
     public static void main(String[] args) {
-        noRuns();
-        states();
-        registers();
-        activities();
-        results();
+        state();
+        register();
+        registerOfNoRun();
+        activity();
+        result();
+        resultOfEveryEnd();
         untaken();
+        untakenAsItGoes();
         time();
         nothingChanges();
         Check.finish();
     }
 
-    private static void noRuns() {
-        ReplayFlow flow = Check.engine(Check.CALL, 0, 9);
-        for (int round = 0; round < 2; round++) {
-            for (int run : Check.NO_RUNS) {
-                Check.due("state(" + run + ")", flow.state(run), ReplayFlow.BAD_RUN);
-                Check.due("activity(" + run + ")", flow.activity(run), ReplayFlow.BAD_RUN);
-                Check.due("result(" + run + ")", flow.result(run), ReplayFlow.BAD_RUN);
-                Check.due("untaken(" + run + ")", flow.untaken(run), ReplayFlow.BAD_RUN);
-                for (int r = -1; r < 5; r++) {
-                    Check.due("register(" + run + ", " + r + ")", flow.register(run, r), 0);
+    /** What the call answers of a run that comes from state to state, NONE first, and of no run. */
+    private static void dueInEveryState(String call, Asked asked, int noRuns, int... due) {
+        for (int run = 0; run < 3; run++) {
+            for (int state = ReplayFlow.NONE; state <= ReplayFlow.ENDED; state++) {
+                ReplayFlow flow = Journey.engineAt(run, state);
+                Check.due(call + "(" + run + ") in state " + state, asked.of(flow, run), due[state]);
+                Check.due(call + "(" + run + ") of another", asked.of(flow, (run + 1) % 3), due[ReplayFlow.NONE]);
+                Check.due(call + "(" + run + ") of another", asked.of(flow, (run + 2) % 3), due[ReplayFlow.NONE]);
+                for (int no : Check.NO_RUNS) {
+                    Check.due(call + "(" + no + ")", asked.of(flow, no), noRuns);
                 }
             }
+        }
+    }
+
+    private interface Asked {
+        int of(ReplayFlow flow, int run);
+    }
+
+    private static void state() {
+        Check.sentence("Promise 9: The run's state; BAD_RUN.");
+        dueInEveryState("state", ReplayFlow::state, ReplayFlow.BAD_RUN, 0, 1, 2, 3, 4);
+    }
+
+    private static void register() {
+        Check.sentence("Promise 10: A register of the run (r & 3) now; 0 if it has not been started");
+        dueInEveryState("register 0", (flow, run) -> flow.register(run, 0), 0, 0, 10, 10, 10, 10);
+        dueInEveryState("register 1", (flow, run) -> flow.register(run, 1), 0, 0, 0, 11, 11, 11);
+        dueInEveryState("register 2", (flow, run) -> flow.register(run, 2), 0, 0, 0, 0, 0, 12);
+        dueInEveryState("register 3", (flow, run) -> flow.register(run, 3), 0, 0, 13, 13, 13, 13);
+        int[] named = {0, 1, 2, 3, 4, 5, 7, 8, -1, -2, -4, -5, 256, Integer.MAX_VALUE, Integer.MIN_VALUE, Integer.MIN_VALUE + 1};
+        for (int r : named) {
             for (int run = 0; run < 3; run++) {
-                flow.start(run, 8);
+                ReplayFlow flow = Journey.engineAt(run, ReplayFlow.ENDED);
+                Check.due("register(" + run + ", " + r + ")", flow.register(run, r), 10 + (r & 3));
+                Check.due("not started", flow.register((run + 1) % 3, r), 0);
             }
         }
     }
 
-    private static void states() {
-        ReplayFlow flow = Check.engine(Check.CALL, 0, 1, Check.SLEEP, 0, 1, Check.TAKE, 0, 1, Check.END, 0, 0);
-        Check.due("NONE", flow.state(1), 0);
-        flow.start(1, 0);
-        Check.due("CALLING", flow.state(1), 1);
-        flow.answer(1, 0);
-        Check.due("SLEEPING", flow.state(1), 2);
-        flow.pass(1);
-        Check.due("TAKING", flow.state(1), 3);
-        flow.signal(1, 1, 0);
-        Check.due("ENDED", flow.state(1), 4);
-        Check.due("another run", flow.state(0), 0);
-        Check.due("another run", flow.state(2), 0);
+    private static void registerOfNoRun() {
+        Check.sentence("Promise 10: 0 if it has not been started or run is not in 0 to 2");
+        ReplayFlow flow = Check.engine(Check.SET, 1, 5, Check.SET, 2, 6, Check.SET, 3, 7, Check.CALL, 0, 0);
+        for (int run = 0; run < 3; run++) {
+            flow.start(run, 8);
+        }
+        for (int run : Check.NO_RUNS) {
+            for (int r = -5; r <= 13; r++) {
+                Check.due("register(" + run + ", " + r + ")", flow.register(run, r), 0);
+            }
+        }
     }
 
-    private static void registers() {
-        ReplayFlow flow = Check.engine(Check.SET, 1, 11, Check.SET, 2, 12, Check.SET, 3, 13, Check.CALL, 0, 1, Check.CALL, 1, 2);
-        for (int r = 0; r < 4; r++) {
-            Check.due("not started", flow.register(2, r), 0);
-        }
-        flow.start(2, 10);
-        int[] named = {0, 1, 2, 3, 4, 7, -1, -4, 13, Integer.MAX_VALUE, Integer.MIN_VALUE};
-        for (int r : named) {
-            Check.due("register(2, " + r + ")", flow.register(2, r), 10 + (r & 3));
-        }
-        flow.answer(2, 90);
-        Check.due("as it is now", flow.register(2, 0), 90);
-        flow.answer(2, 91);
-        Check.due("after the end", flow.register(2, 1), 91);
-        Check.due("another run's", flow.register(1, 0), 0);
-    }
-
-    private static void activities() {
-        for (int b : new int[] {0, 1, -3, 77, Integer.MAX_VALUE, Integer.MIN_VALUE}) {
-            ReplayFlow flow = Check.engine(Check.CALL, 0, b, Check.SLEEP, 0, 6, Check.TAKE, 0, 7, Check.END, 0, 8);
-            Check.due("not started", flow.activity(0), 0);
+    private static void activity() {
+        Check.sentence("Promise 11: The activity b that the run waits for; 0 if its state is not CALLING; BAD_RUN.");
+        dueInEveryState("activity", ReplayFlow::activity, ReplayFlow.BAD_RUN, 0, Journey.ACTIVITY, 0, 0, 0);
+        Check.sentence("Promise 11: (An activity may have that number too.)");
+        int[] numbers = {0, 1, -1, ReplayFlow.BAD_RUN, ReplayFlow.NOT_WAITING, Integer.MAX_VALUE, Integer.MIN_VALUE};
+        for (int b : numbers) {
+            ReplayFlow flow = Check.engine(Check.CALL, 0, b, Check.CALL, 0, 6, Check.END, 0, 8);
             flow.start(0, 0);
-            Check.due("calling", flow.activity(0), b);
+            Check.due("state", flow.state(0), ReplayFlow.CALLING);
+            Check.due("activity", flow.activity(0), b);
             flow.answer(0, 0);
-            Check.due("sleeping", flow.activity(0), 0);
-            flow.pass(6);
-            Check.due("taking", flow.activity(0), 0);
-            flow.signal(0, 7, 0);
+            Check.due("the next activity", flow.activity(0), 6);
+            flow.answer(0, 0);
             Check.due("ended", flow.activity(0), 0);
         }
     }
 
-    private static void results() {
-        ReplayFlow flow = Check.engine(Check.CALL, 0, 1, Check.SLEEP, 0, 1, Check.TAKE, 1, 1, Check.END, 0, 0);
-        Check.due("not started", flow.result(2), 0);
-        flow.start(2, 5);
-        Check.due("calling", flow.result(2), 0);
-        flow.answer(2, -6);
-        Check.due("sleeping", flow.result(2), 0);
-        flow.pass(1);
-        Check.due("taking", flow.result(2), 0);
-        flow.signal(2, 1, 0);
-        Check.due("ended", flow.result(2), -6);
-        Check.due("another run's", flow.result(1), 0);
+    private static void result() {
+        Check.sentence("Promise 12: The result of an ended run; 0 otherwise; BAD_RUN.");
+        dueInEveryState("result", ReplayFlow::result, ReplayFlow.BAD_RUN, 0, 0, 0, 0, Journey.RESULT);
+        for (int value : Check.EDGE_INTS) {
+            ReplayFlow flow = Check.engine(Check.END, 0, 0);
+            flow.start(2, value);
+            Check.due("result", flow.result(2), value);
+        }
+    }
+
+    private static void resultOfEveryEnd() {
+        Check.sentence("Promise 12: The result of an ended run");
+        dueResult("END", 5, Check.engine(Check.END, 0, 0));
+        dueResult("no instructions", 0, Check.engine());
+        dueResult("off the end", 0, Check.engine(Check.SET, 1, 1));
+        dueResult("a jump out", 0, Check.engine(Check.JUMP, 0, -1, Check.END, 0, 0));
+        dueResult("stuck", 0, Check.engine(Check.JUMP, 0, 0, Check.END, 0, 0));
+    }
+
+    private static void dueResult(String end, int due, ReplayFlow flow) {
+        for (int run = 0; run < 3; run++) {
+            flow.start(run, 5);
+            Check.due(end + ": result(" + run + ")", flow.result(run), due);
+        }
     }
 
     private static void untaken() {
+        Check.sentence("Promise 13: How many signals have come to the run that it has not taken; BAD_RUN.");
+        dueInEveryState("untaken", ReplayFlow::untaken, ReplayFlow.BAD_RUN, 0, 1, 1, 1, 1);
+        for (int count = 0; count <= 25; count++) {
+            ReplayFlow flow = Check.engine(Check.CALL, 0, 1);
+            flow.start(0, 0);
+            for (int i = 0; i < count; i++) {
+                flow.signal(0, i, i);
+            }
+            Check.due("after " + count, flow.untaken(0), Math.min(count, 24));
+            flow.answer(0, 0);
+            Check.due("after " + count + " and its end", flow.untaken(0), Math.min(count, 24));
+        }
+    }
+
+    private static void untakenAsItGoes() {
+        Check.sentence("Promise 13: How many signals have come to the run that it has not taken");
         ReplayFlow flow = Check.engine(Check.CALL, 0, 1, Check.TAKE, 0, 0, Check.TAKE, 0, 1, Check.TAKE, 0, 1);
-        Check.due("not started", flow.untaken(1), 0);
         flow.start(1, 0);
-        Check.due("none", flow.untaken(1), 0);
         flow.signal(1, 0, 1);
         flow.signal(1, 0, 2);
         flow.signal(1, 1, 3);
@@ -106,54 +141,45 @@ public final class AnswersTest {
         Check.due("one more", flow.untaken(1), 2);
         flow.signal(1, 1, 5);
         Check.due("ended", flow.state(1), ReplayFlow.ENDED);
-        Check.due("after the end", flow.untaken(1), 2);
+        Check.due("one came and was taken", flow.untaken(1), 2);
         flow.signal(1, 1, 6);
         Check.due("a signal that was refused", flow.untaken(1), 2);
         Check.due("another run's", flow.untaken(0), 0);
     }
 
     private static void time() {
+        Check.sentence("Promise 14: The time.");
         ReplayFlow flow = new ReplayFlow();
         Check.due("new", flow.time(), 0);
-        for (int i = 1; i <= 500; i++) {
+        for (int i = 1; i <= 250; i++) {
             flow.pass(1000);
+            Check.due("time()", flow.time(), 1000 * i);
         }
-        Check.due("far", flow.time(), 500000);
-        flow.pass(0);
-        Check.due("by 0", flow.time(), 500000);
         flow.pass(7);
-        Check.due("by 7", flow.time(), 500007);
+        Check.due("by 7", flow.time(), 250007);
         flow.pass(-1);
-        Check.due("refused", flow.time(), 500007);
+        flow.pass(1001);
+        Check.due("refused", flow.time(), 250007);
         flow.clear();
         Check.due("cleared", flow.time(), 0);
     }
 
     private static void nothingChanges() {
-        ReplayFlow flow = Check.engine(Check.CALL, 0, 4, Check.TAKE, 1, 0, Check.SLEEP, 2, 3, Check.END, 1, 0);
-        readAll(flow);
-        Check.due("start", flow.start(0, 1), ReplayFlow.CALLING);
-        readAll(flow);
-        Check.due("signal", flow.signal(0, 1, 2), ReplayFlow.CALLING);
-        readAll(flow);
-        Check.due("answer", flow.answer(0, 5), ReplayFlow.TAKING);
-        readAll(flow);
-        Check.due("signal", flow.signal(0, 0, 6), ReplayFlow.SLEEPING);
-        readAll(flow);
-        Check.due("pass", flow.pass(3), 1);
-        readAll(flow);
-        Check.dueRun("ended", flow, 0, ReplayFlow.ENDED, 0, 6, 1, 5, 6, 0, 0);
+        Check.sentence("The calls below change nothing that any call answers.");
+        dueUnchanged("state", flow -> flow.state(1) + flow.state(-1) + flow.state(3));
+        dueUnchanged("register", flow -> flow.register(1, 0) + flow.register(1, -1) + flow.register(-1, 2) + flow.register(3, 3));
+        dueUnchanged("activity", flow -> flow.activity(1) + flow.activity(-1) + flow.activity(3));
+        dueUnchanged("result", flow -> flow.result(1) + flow.result(-1) + flow.result(3));
+        dueUnchanged("untaken", flow -> flow.untaken(1) + flow.untaken(-1) + flow.untaken(3));
+        dueUnchanged("time", ReplayFlow::time);
     }
 
-    private static void readAll(ReplayFlow flow) {
-        for (int run = -1; run < 4; run++) {
-            flow.state(run);
-            flow.activity(run);
-            flow.result(run);
-            flow.untaken(run);
-            flow.register(run, 0);
-            flow.register(run, 5);
+    private static void dueUnchanged(String call, ToIntFunction<ReplayFlow> asked) {
+        for (int state = ReplayFlow.NONE; state <= ReplayFlow.ENDED; state++) {
+            ReplayFlow flow = Journey.engineAt(1, state);
+            Check.due(call + " twice", asked.applyAsInt(flow), asked.applyAsInt(flow));
+            Journey.dueAt("after " + call, flow, 1, state);
+            Journey.bring(flow, 1, state, ReplayFlow.ENDED);
         }
-        flow.time();
     }
 }
