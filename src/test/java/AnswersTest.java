@@ -12,6 +12,7 @@ public final class AnswersTest {
         untaken();
         untakenAsItGoes();
         time();
+        badRunFirst();
         nothingChanges();
         Check.finish();
     }
@@ -162,6 +163,25 @@ public final class AnswersTest {
         Check.due("refused", flow.time(), 250007);
         flow.clear();
         Check.due("cleared", flow.time(), 0);
+    }
+
+    private static void badRunFirst() {
+        Check.sentence("BAD_RUN first.");
+        ReplayFlow flow = new ReplayFlow();
+        dueBadRuns("new", flow);
+        flow.start(0, 1);
+        dueBadRuns("ended", flow);
+        flow.clear();
+        dueBadRuns("cleared", flow);
+    }
+
+    private static void dueBadRuns(String when, ReplayFlow flow) {
+        for (int run : Check.NO_RUNS) {
+            Check.due(when + ": state(" + run + ")", flow.state(run), ReplayFlow.BAD_RUN);
+            Check.due(when + ": activity(" + run + ")", flow.activity(run), ReplayFlow.BAD_RUN);
+            Check.due(when + ": result(" + run + ")", flow.result(run), ReplayFlow.BAD_RUN);
+            Check.due(when + ": untaken(" + run + ")", flow.untaken(run), ReplayFlow.BAD_RUN);
+        }
     }
 
     private static void nothingChanges() {

@@ -114,7 +114,7 @@ final class Check {
 
     static void finish() {
         if (wrong != 0) {
-            System.out.println(wrong + " answers are not as due");
+            System.out.println("not as due: " + wrong);
             System.exit(1);
         }
     }

@@ -164,7 +164,7 @@ public final class EmitTest {
     }
 
     private static void orderOfRefusals() {
-        Check.sentence("Promise 2: BAD_OP; FULL; LOCKED, in the document's order");
+        Check.sentence("Promise 2: BAD_OP; .. FULL; .. LOCKED");
         ReplayFlow flow = Check.engineOf(16, Check.END, 0, 0);
         Check.due("bad op and full", flow.emit(9, 0, 0), ReplayFlow.BAD_OP);
         flow.start(0, 0);

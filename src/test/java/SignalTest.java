@@ -168,7 +168,7 @@ public final class SignalTest {
     }
 
     private static void orderOfRefusals() {
-        Check.sentence("Promise 5: BAD_RUN; NOT_WAITING; FULL, in the document's order");
+        Check.sentence("Promise 5: BAD_RUN; .. NOT_WAITING; .. FULL");
         ReplayFlow flow = Check.engine(Check.CALL, 0, 0);
         flow.start(0, 0);
         for (int i = 0; i < 24; i++) {
