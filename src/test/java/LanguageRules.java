@@ -36,6 +36,15 @@ final class LanguageRules extends TreePathScanner<Void, Void> {
     private static final int MOST_FIELDS = 40;
     private static final int DEEPEST_CALLS = 6;
     private static final String CONSTRUCTOR = "<init>";
+
+    /** What may not stand anywhere, with the number of the rule that says so. */
+    private static final Map<Tree.Kind, Integer> FORBIDDEN = Map.ofEntries(
+            Map.entry(Tree.Kind.IMPORT, 3), Map.entry(Tree.Kind.ANNOTATION, 3), Map.entry(Tree.Kind.NEW_CLASS, 4),
+            Map.entry(Tree.Kind.THROW, 6), Map.entry(Tree.Kind.TRY, 6), Map.entry(Tree.Kind.SYNCHRONIZED, 6),
+            Map.entry(Tree.Kind.ASSERT, 6), Map.entry(Tree.Kind.INSTANCE_OF, 6),
+            Map.entry(Tree.Kind.LAMBDA_EXPRESSION, 6), Map.entry(Tree.Kind.MEMBER_REFERENCE, 6),
+            Map.entry(Tree.Kind.WHILE_LOOP, 8), Map.entry(Tree.Kind.DO_WHILE_LOOP, 8));
+
     private static final Set<Tree.Kind> UP = EnumSet.of(Tree.Kind.POSTFIX_INCREMENT, Tree.Kind.PREFIX_INCREMENT);
     private static final Set<Tree.Kind> DOWN = EnumSet.of(Tree.Kind.POSTFIX_DECREMENT, Tree.Kind.PREFIX_DECREMENT);
 
@@ -141,15 +150,16 @@ final class LanguageRules extends TreePathScanner<Void, Void> {
     }
 
     @Override
+    public Void scan(Tree tree, Void p) {
+        Integer rule = tree == null ? null : FORBIDDEN.get(tree.getKind());
+        return rule == null ? super.scan(tree, p) : forbid(rule, tree.getKind().toString(), tree);
+    }
+
+    @Override
     public Void visitCompilationUnit(CompilationUnitTree node, Void p) {
         allow(node.getPackageName() == null, 1, "a package line", node);
         allow(node.getTypeDecls().size() == 1, 1, "more than one class", node);
         return super.visitCompilationUnit(node, p);
-    }
-
-    @Override
-    public Void visitImport(ImportTree node, Void p) {
-        return forbid(3, "an import", node);
     }
 
     @Override
@@ -234,11 +244,6 @@ final class LanguageRules extends TreePathScanner<Void, Void> {
     }
 
     @Override
-    public Void visitAnnotation(AnnotationTree node, Void p) {
-        return forbid(3, "an annotation", node);
-    }
-
-    @Override
     public Void visitMemberSelect(MemberSelectTree node, Void p) {
         boolean length = node.getIdentifier().contentEquals("length") && arrays.contains(node.getExpression().toString());
         boolean own = node.getExpression().toString().equals("this");
@@ -266,11 +271,6 @@ final class LanguageRules extends TreePathScanner<Void, Void> {
     }
 
     @Override
-    public Void visitNewClass(NewClassTree node, Void p) {
-        return forbid(4, "an object is made", node);
-    }
-
-    @Override
     public Void visitNewArray(NewArrayTree node, Void p) {
         boolean plain = node.getInitializers() == null && node.getDimensions().size() == 1;
         Long length = plain ? valueOf(node.getDimensions().get(0)) : null;
@@ -293,54 +293,9 @@ final class LanguageRules extends TreePathScanner<Void, Void> {
     }
 
     @Override
-    public Void visitThrow(ThrowTree node, Void p) {
-        return forbid(6, "throw", node);
-    }
-
-    @Override
-    public Void visitTry(TryTree node, Void p) {
-        return forbid(6, "try", node);
-    }
-
-    @Override
-    public Void visitSynchronized(SynchronizedTree node, Void p) {
-        return forbid(6, "synchronized", node);
-    }
-
-    @Override
-    public Void visitAssert(AssertTree node, Void p) {
-        return forbid(6, "assert", node);
-    }
-
-    @Override
-    public Void visitInstanceOf(InstanceOfTree node, Void p) {
-        return forbid(6, "instanceof", node);
-    }
-
-    @Override
-    public Void visitLambdaExpression(LambdaExpressionTree node, Void p) {
-        return forbid(6, "a lambda", node);
-    }
-
-    @Override
-    public Void visitMemberReference(MemberReferenceTree node, Void p) {
-        return forbid(6, "a method reference", node);
-    }
-
-    @Override
     public Void visitTypeCast(TypeCastTree node, Void p) {
         allow(node.getType() instanceof PrimitiveTypeTree, 6, "a cast of a reference", node);
         return super.visitTypeCast(node, p);
-    }
-
-    @Override
-    public Void visitWhileLoop(WhileLoopTree node, Void p) {
-        return forbid(8, "a while, whose end is not looked for here", node);
-    }
-
-    @Override
-    public Void visitDoWhileLoop(DoWhileLoopTree node, Void p) {
-        return forbid(8, "a do, whose end is not looked for here", node);
     }
 
     @Override
