@@ -8,6 +8,8 @@ public final class GoingOnTest {
         fallsOffTheEnd();
         fallsOffBehindAWait();
         untilItWaitsOrEnds();
+        longestWayWithinOneCall(0, ReplayFlow.ENDED);
+        longestWayWithinOneCall(1, ReplayFlow.TAKING);
         withinTheCall();
         allRunsInOneCall();
         Check.finish();
@@ -75,6 +77,26 @@ public final class GoingOnTest {
                 Check.dueRun("from " + wait + " to " + next, flow, 0, next - 4, next == Check.CALL ? 1 : 0,
                         next == Check.END ? 6 : 0, 0, 2, wait == Check.SLEEP ? 0 : 6, 6, 0);
             }
+        }
+    }
+
+    /** Each of the 24 signals is there when its TAKE is come to, 59 steps behind the last wait: 1500 instructions. */
+    private static void longestWayWithinOneCall(int lastSignal, int state) {
+        Check.sentence("Whenever a run doesn't wait, it goes on until it waits or ends");
+        ReplayFlow flow = Check.engine(Check.SLEEP, 0, 1, Check.SET, 3, 7);
+        Check.emitSteps(flow, 2, 58);
+        flow.emit(Check.TAKE, 0, 1);
+        flow.emit(Check.JPOS, 0, 2);
+        flow.emit(Check.JUMP, 0, 8);
+        for (int run = 0; run < 3; run++) {
+            Check.due("start", flow.start(run, 5), ReplayFlow.SLEEPING);
+            for (int i = 1; i <= 24; i++) {
+                Check.due("signal " + i, flow.signal(run, 1, i < 24 ? i : lastSignal), ReplayFlow.SLEEPING);
+            }
+        }
+        Check.due("pass", flow.pass(1), 3);
+        for (int run = 0; run < 3; run++) {
+            Check.dueRun("all taken within one call", flow, run, state, 0, 0, 0, lastSignal, 0, 1, 7);
         }
     }
 
